@@ -1153,7 +1153,7 @@ public final class MetreDesk {
             return fill(verse, f, false) && gates[0] < NEVER ? gates[0] : NONE;
         }
 
-        /** The price of syllable i as what is needed by its own mark or struck or turned; NONE. */
+        /** The price of syllable i taken as what is needed: as it is, struck or turned; NONE if it can't be. */
         int ownPrice(int need, int i) {
             int at = need * SIDE + i;
             return need > 0 && need <= Foot.ANY && i >= 0 && i < SIDE ? own[at] : NONE;
@@ -1171,12 +1171,10 @@ public final class MetreDesk {
             return line != null && i > 0 && i + 1 == line.size ? extra : NONE;
         }
 
+        /** What the table filled last has for a state behind the first step; OVER is behind the last. */
         int valueAt(int state, int i) {
             if (state == OVER) {
                 return counting ? 1 : 0;
-            }
-            if (state == START && i == 0) {
-                return gates[0];
             }
             if (state < 0 || state >= START || i < 0 || i >= SIDE) {
                 return nothing;
@@ -1509,7 +1507,7 @@ public final class MetreDesk {
             return step >> 12 & 15;
         }
 
-        /** The price of a step by the licence that it uses. */
+        /** The licence that a step uses; NONE for one as it is. */
         static int licenceOf(int step) {
             switch (wayOf(step)) {
                 case BY_STRIKE:

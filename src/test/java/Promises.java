@@ -1308,6 +1308,21 @@ public final class Promises {
         Check.keep(x, 0, "a");
         due("the first of the cheapest", x.learn(0), 1);
         due("it is as it is", x.count(12), 50);
+        fresh();
+        x.licence(0, 3);
+        x.licence(1, 3);
+        x.foot(0, 0, 3, 0, 0);
+        for (int i = 0; i < 4; i++) {
+            x.form(0, i, 1);
+        }
+        Check.keep(x, 0, "ab mia ab a");
+        due("one melted, or one lost", x.learn(0), 1);
+        due("lost: the lesser way first", x.count(10), 50 - 10);
+        due("not melted", x.count(11), 50);
+        x.licence(1, 39);
+        due("learnt anew", x.learn(0), 1);
+        due("melted is cheaper: one of four", x.count(11), 50 - 12);
+        due("lost no more", x.count(10), 50);
     }
 
     // promise 33
