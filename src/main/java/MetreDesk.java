@@ -775,11 +775,15 @@ public final class MetreDesk {
                 int sign = i < length && i < bytes.length ? bytes[i] : BLANK;
                 if (Language.isLetter(sign)) {
                     begin = begin == NONE ? i : begin;
-                } else if (sign != BLANK) {
-                    setFault(BAD_BYTE, i);
-                } else if (begin != NONE) {
+                    continue;
+                }
+                // A word begins ahead of the byte that ends it, so its fault comes first.
+                if (begin != NONE) {
                     setFault(addWord(bytes, begin, i), begin);
                     begin = NONE;
+                }
+                if (fault == 0 && sign != BLANK) {
+                    setFault(BAD_BYTE, i);
                 }
             }
             if (fault == 0 && draft.size == 0) {

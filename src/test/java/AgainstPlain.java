@@ -222,7 +222,7 @@ public final class AgainstPlain {
         if (at(2) == 0 && text.length() > 0) {
             text.setLength(text.length() - 1);
         }
-        if (at(40) == 0 && text.length() > 0) {
+        for (int bad = at(12) == 0 ? 1 + at(3) : 0; bad > 0 && text.length() > 0; bad--) {
             text.setCharAt(at(text.length()), (char) at(256));
         }
         if (text.length() > 130) {

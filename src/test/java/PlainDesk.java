@@ -298,6 +298,10 @@ final class PlainDesk {
         return all;
     }
 
+    private static boolean isLetter(char sign) {
+        return sign >= 'a' && sign <= 'z';
+    }
+
     private int stop(int sort, int at) {
         fault = sort;
         faultPlace = at;
@@ -314,11 +318,11 @@ final class PlainDesk {
                 i++;
                 continue;
             }
+            if (!isLetter(text.charAt(i))) {
+                return stop(1, i);
+            }
             int begin = i;
-            while (i < text.length() && text.charAt(i) != ' ') {
-                if (text.charAt(i) < 'a' || text.charAt(i) > 'z') {
-                    return stop(1, i);
-                }
+            while (i < text.length() && isLetter(text.charAt(i))) {
                 i++;
             }
             String word = text.substring(begin, i);

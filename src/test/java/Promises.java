@@ -23,6 +23,7 @@ public final class Promises {
         cutAndLicence();
         line();
         lineFaults();
+        firstFault();
         syllable();
         rules();
         keptAsItCame();
@@ -319,10 +320,11 @@ public final class Promises {
     private static void lineFaults() {
         fresh();
         line("ab a");
-        String[] texts = {"ab c#d", "ab A", "a bbbbbbbbbbbbbbbba", "a bcd a", "a a a a a a a a a a a a b\u0001",
-            "a a a a a a a a a a a a ba", "aeioaeioaeioaeio aeioaeioaeioaeio aeioaeioa a", "", "   ", "b+", " a\u00e1"};
-        int[] sorts = {1, 1, 2, 3, 1, 4, 4, 5, 5, 1, 1};
-        int[] places = {4, 3, 2, 2, 25, 24, 34, 0, 3, 1, 2};
+        String[] texts = {"ab c#d", "ab ce#d", "ab A", "a bbbbbbbbbbbbbbbba", "a bcd a",
+            "a a a a a a a a a a a a ba", "aeioaeioaeioaeio aeioaeioaeioaeio aeioaeioa a", "", "   ", "b+", "ba+",
+            " a\u00e1"};
+        int[] sorts = {3, 1, 1, 2, 3, 4, 4, 5, 5, 3, 1, 1};
+        int[] places = {3, 5, 3, 2, 2, 24, 34, 0, 3, 0, 2, 2};
         for (int i = 0; i < texts.length; i++) {
             due("line " + texts[i], line(texts[i]), NONE);
             due("fault of " + texts[i], x.fault(0), sorts[i]);
@@ -335,6 +337,32 @@ public final class Promises {
         line("a");
         due("no fault", x.fault(0), 0);
         due("no place", x.fault(1), NONE);
+    }
+
+    // promises 12, 13: of several faults the one whose place comes first from the left
+    private static void firstFault() {
+        fresh();
+        due("twenty bytes", x.feed(1927065427, 0, 0, 0, 0), 20);
+        due("line", x.line(), NONE);
+        due("a word without a vowel ahead of a bad byte", x.fault(0), 3);
+        due("its place", x.fault(1), 0);
+        String twelve = "a a a a a a a a a a a a ";
+        String many = "aeioaeioaeioaeio aeioaeioaeioaeio aeioaeioa";
+        String[] texts = {"#r", "a#r", "bc#", "a bc\u0000d", "abbbbbbbbbbbbbbbb#", "abbbbbbbbbbbbbbb#",
+            "a# abbbbbbbbbbbbbbbb", "bc abbbbbbbbbbbbbbbb", "abbbbbbbbbbbbbbbb bc", twelve + "ba#", twelve + "#ba",
+            many + "#", "bc " + many, "a # bc", "#", "a##"};
+        int[] sorts = {1, 1, 3, 3, 2, 1, 1, 3, 2, 4, 1, 4, 3, 1, 1, 1};
+        int[] places = {0, 1, 0, 2, 0, 16, 1, 0, 0, 24, 24, 34, 0, 2, 0, 1};
+        for (int i = 0; i < texts.length; i++) {
+            due("line " + texts[i], line(texts[i]), NONE);
+            due("first fault of " + texts[i], x.fault(0), sorts[i]);
+            due("first place of " + texts[i], x.fault(1), places[i]);
+        }
+        due("there is no line yet", x.count(3), NONE);
+        word("ro+ma*");
+        due("a word of the book, then a bad byte", line("roma#"), NONE);
+        due("its fault", x.fault(0), 1);
+        due("its place", x.fault(1), 4);
     }
 
     // promise 14
