@@ -609,11 +609,26 @@ public final class MetreDesk {
             return Math.min(2, letterCount() - from[begin]);
         }
 
-        boolean sameLetters(Syllables other) {
-            if (letterCount() != other.letterCount()) {
+        /** Whether its words are the other's, letter for letter; how they are parted is nothing to it. */
+        boolean sameWords(Syllables other) {
+            if (wordCount() != other.wordCount() || compareLetters(other.letters, 0, other.letterCount()) != 0) {
                 return false;
             }
-            return compareLetters(other.letters, 0, other.letterCount()) == 0;
+            for (int w = 0; w < wordCount(); w++) {
+                if (lettersThrough(w) != other.lettersThrough(w)) {
+                    return false;
+                }
+            }
+            return true;
+        }
+
+        /** How many letters there are from the begin to the end of a word. */
+        private int lettersThrough(int word) {
+            int syllables = 0;
+            while (syllables < size && words[syllables] <= word) {
+                syllables++;
+            }
+            return from[syllables];
         }
 
         /** Below 0 when its letters stand ahead of these in order, above 0 when behind. */
@@ -1967,7 +1982,7 @@ public final class MetreDesk {
             if (again >= 0 && again < i) {
                 Syllables line = lineAt(k);
                 Syllables earlier = lineAt(trial[again]);
-                trialFaults += earlier != null && line != null && line.sameLetters(earlier) ? 0 : 1;
+                trialFaults += earlier != null && line != null && line.sameWords(earlier) ? 0 : 1;
             }
         }
 

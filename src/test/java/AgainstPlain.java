@@ -119,6 +119,9 @@ public final class AgainstPlain {
                 keep();
                 break;
             case 12:
+                if (at(3) == 0) {
+                    keepAgain();
+                }
                 place();
                 break;
             case 13:
@@ -301,6 +304,38 @@ public final class AgainstPlain {
             for (int b = -1; b < 13; b++) {
                 same("rhyme " + a + " " + b, desk.rhyme(a, b), plain.rhyme(a, b));
             }
+        }
+    }
+
+    /** Keeps a line twice, the second time now and then with another blank, other pairs, other words told. */
+    private void keepAgain() {
+        StringBuilder text = new StringBuilder();
+        for (int i = 1 + at(3); i > 0; i--) {
+            text.append(WORDS[at(WORDS.length)]).append(' ');
+        }
+        int k = at(11);
+        keepAs(text.toString(), k);
+        int from = at(text.length());
+        if (at(2) == 0 && text.charAt(from) == ' ') {
+            text.deleteCharAt(from);
+        }
+        if (at(2) == 0) {
+            text.insert(at(text.length()), ' ');
+        }
+        for (int i = at(3); i > 0; i--) {
+            language();
+        }
+        keepAs(text.toString(), k + 1);
+        int i = plain.count(6);
+        same("place", desk.place(i, 0, -1, -1, false), plain.place(i, 0, -1, -1, false));
+        same("place", desk.place(i + 1, 1, -1, i, false), plain.place(i + 1, 1, -1, i, false));
+    }
+
+    private void keepAs(String text, int k) {
+        feed(text);
+        same("line", desk.line(), plain.line());
+        if (plain.count(4) <= 11) {
+            same("keep " + k, desk.keep(k), plain.keep(k));
         }
     }
 

@@ -714,10 +714,10 @@ final class PlainDesk {
         return word.length() == 1 ? word.toString() : word.substring(word.length() - 2);
     }
 
-    private static String letters(List<Syl> l) {
+    private static String words(List<Syl> l) {
         StringBuilder all = new StringBuilder();
-        for (Syl s : l) {
-            all.append(s.text);
+        for (int i = 0; i < l.size(); i++) {
+            all.append(l.get(i).text).append(lastOfWord(l, i) ? " " : "");
         }
         return all.toString();
     }
@@ -832,7 +832,7 @@ final class PlainDesk {
                 }
             }
             int again = places.get(i).again;
-            if (again != NONE && (now[10 + again] == NONE || !letters(poem.get(now[10 + again])).equals(letters(l)))) {
+            if (again != NONE && (now[10 + again] == NONE || !words(poem.get(now[10 + again])).equals(words(l)))) {
                 faults++;
             }
         }

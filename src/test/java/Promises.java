@@ -50,6 +50,8 @@ public final class Promises {
         place();
         judge();
         judgeFaults();
+        judgeAgain();
+        judgeAgainOtherwise();
         judgeLeavesOut();
         fits();
         fitsTooLong();
@@ -1185,6 +1187,63 @@ public final class Promises {
         x.form(2, 0, 1 << 11);
         x.place(0, 2, -1, -1, false);
         judgedIs(3, 0, 0, 0, 2, 3, NONE, NONE);
+    }
+
+    private static void againIs(int faults, String first, String second) {
+        Check.keep(x, 0, first);
+        Check.keep(x, 1, second);
+        due(first + " ahead of " + second, x.judge(), faults);
+        due("faults", x.judged(0), faults);
+    }
+
+    // promise 28: what is the same line
+    private static void judgeAgain() {
+        fresh();
+        x.foot(0, 4, 1, 0, 3);
+        x.foot(1, 4, 3, 0, 3);
+        x.licence(2, 1);
+        x.form(0, 0, 3);
+        x.place(0, 0, -1, -1, false);
+        x.place(1, 0, -1, 0, false);
+        againIs(0, "a ba", "a ba");
+        againIs(1, "a ba", "ab a");
+        againIs(1, "ab a", "a ba");
+        againIs(1, "a ba", "aba");
+        againIs(1, "aba", "a ba");
+        againIs(0, "a ba", "  a   ba ");
+        againIs(1, "a ba", "a ba a");
+        againIs(1, "a ba a", "a ba");
+        againIs(1, "a ba", "a be");
+        againIs(1, "a ba ba", "a ba aba");
+        againIs(1, "a baa ba", "a ba aba");
+        againIs(1, "aba a aba", "a baa aba");
+        againIs(1, "ba ba ba", "ba bab a");
+        againIs(0, "ba ba ba", "ba ba ba");
+    }
+
+    // promise 28: the same line, parted, marked or sounding otherwise
+    private static void judgeAgainOtherwise() {
+        fresh();
+        x.foot(0, 4, 1, 0, 3);
+        x.foot(1, 4, 3, 0, 3);
+        x.licence(2, 1);
+        x.form(0, 0, 3);
+        x.place(0, 0, -1, -1, false);
+        x.place(1, 0, -1, 0, false);
+        Check.keep(x, 0, "oboe area");
+        word("o-bo-e+");
+        x.pair(4, 0, 1);
+        Check.keep(x, 1, "oboe area");
+        due("the same words", x.judge(), 0);
+        x.vowel(4, false);
+        Check.keep(x, 1, "oboe area");
+        due("another vowel", x.judge(), 0);
+        Check.unword(x, "oboe");
+        word("ob+oe+");
+        Check.keep(x, 1, "oboe  area");
+        due("other syllables", x.judge(), 0);
+        Check.keep(x, 1, "ob oe area");
+        due("other words", x.judge(), 1);
     }
 
     // promise 28: what is left out
