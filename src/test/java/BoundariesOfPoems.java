@@ -221,6 +221,9 @@ public final class BoundariesOfPoems {
         rhymes(x, "tae", "te", 0);
         rhymes(x, "tae", "ta", 0);
         rhymes(x, "tae", "dae", 3);
+        x.pair(0, 25, 1);
+        x.pair(1, 0, 1);
+        rhymes(x, "az", "ba", 0);
     }
 
     // "of a SYLLABLE in which no SOUND is a vowel (any more) from its first SOUND on"
