@@ -718,6 +718,17 @@ public final class BoundariesOfFeet {
         due("ends with a pair that is none", x.scan(0), 0);
     }
 
+    // "SOUNDS of a SYLLABLE are those of its own letters": so a word begins with its first SYLLABLE's
+    static void lostAheadOfAPairThatTheBookParts(MetreDesk x) {
+        formOf(x, 1, 0, 333, 0, 0);
+        x.licence(0, 3);
+        x.pair(0, 1, 2);
+        Check.word(x, "a-bo-");
+        readings(x, "ada abo", "3: 000002 14.... 200012 300022");
+        Check.unword(x, "abo");
+        readings(x, "ada abo", "0: 000002 100012 200022");
+    }
+
     // "is left out": whatever its mark
     static void lostOfAnyMark(MetreDesk x) {
         formOf(x, 1, 0, 33, 0, 0);
@@ -793,6 +804,17 @@ public final class BoundariesOfFeet {
         readings(x, "io", "8: 030001");
         x.foot(0, 0, 33, 0, 0);
         readings(x, "aioe", "16: 030001 230011");
+    }
+
+    // "SOUNDS of a SYLLABLE are those of its own letters": a PAIR parted by the book is none
+    static void meltedAcrossAPairThatTheBookParts(MetreDesk x) {
+        formOf(x, 1, 0, 1, 0, 0);
+        x.licence(1, 8);
+        x.pair(0, 4, 1);
+        Check.word(x, "ta-e-");
+        readings(x, "tae", "8: 030001");
+        Check.unword(x, "tae");
+        readings(x, "tae", "0: 000001");
     }
 
     // "ends with its vowel", "begins with its vowel": PAIRS too
